@@ -6,6 +6,9 @@ final class Check {
     static final int MIN = Integer.MIN_VALUE;
     static final int MAX = Integer.MAX_VALUE;
 
+    /** A long test that goes wrong would otherwise bury its first, telling lines. */
+    private static final int MOST_PRINTED = 40;
+
     private static int asked = 0;
     private static int wrong = 0;
 
@@ -15,16 +18,21 @@ final class Check {
     static void same(String what, long got, long due) {
         asked++;
         if (got != due) {
-            wrong++;
-            System.out.println(what + " answered " + got + ", due is " + due);
+            tell(what + " answered " + got + ", due is " + due);
         }
     }
 
     static void holds(String what, boolean isSo) {
         asked++;
         if (!isSo) {
-            wrong++;
-            System.out.println("not so: " + what);
+            tell("not so: " + what);
+        }
+    }
+
+    private static void tell(String fault) {
+        wrong++;
+        if (wrong <= MOST_PRINTED) {
+            System.out.println(fault);
         }
     }
 

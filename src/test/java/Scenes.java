@@ -17,19 +17,24 @@ final class Scenes {
         }
     }
 
-    /** Working, output and both slots all hold something, and each something else. */
+    /**
+     * Three groups that differ in every pixel and every vector: one in slot 0, one in slot 1 and in
+     * the output, one in the working frames.
+     */
     static void everythingInUse(TemporalLift t) {
         countedFrames(t);
         countedVectors(t, 0);
         t.encode(0);
-        t.roughen(1, 7);
-        t.invert(2, 3, 3);
+        // 255 - p is never p nor p + 2, not modulo 256 either: where p is even it is odd.
+        for (int f = 0; f < 4; f++) {
+            t.ramp(f, -1, -8, 255 - 64 * f);
+        }
         countedVectors(t, 5);
         t.encode(1);
-        t.roughen(0, 3);
-        t.drift(3, 1, -1);
         t.decode(1);
-        t.ramp(1, 5, 9, 100);
+        for (int f = 0; f < 4; f++) {
+            t.ramp(f, 1, 8, 64 * f + 2);
+        }
         countedVectors(t, 13);
     }
 
