@@ -45,10 +45,9 @@ public final class FramesTest {
         int[] before = State.after(USED);
         for (int f = 0; f < 4; f++) {
             for (int corner = 0; corner < 4; corner++) {
-                int frame = f;
                 int x = corner % 2 == 0 ? 0 : 7;
                 int y = corner < 2 ? 0 : 7;
-                onePixelChanges(before, frame, x, y);
+                onePixelChanges(before, f, x, y);
             }
             onePixelChanges(before, f, 2, 5);
         }
