@@ -242,17 +242,25 @@ public final class FramesTest {
     }
 
     private static void invertStopsAtTheEdge() {
-        int[][] cases = {{0, 0, 9}, {5, 5, 9}, {6, 5, 6}, {5, 6, 6}, {6, 6, 4}, {7, 0, 3}, {0, 7, 3}, {7, 6, 2}, {7, 7, 1}};
-        for (int[] c : cases) {
-            int[] due = State.after(t -> { });
-            for (int y = c[1]; y <= c[1] + 2 && y <= 7; y++) {
-                for (int x = c[0]; x <= c[0] + 2 && x <= 7; x++) {
-                    due[State.pixelPlace(3, x, y)] = 255;
+        int[][] counts = {{0, 0, 9}, {5, 5, 9}, {6, 5, 6}, {5, 6, 6}, {6, 6, 4}, {7, 0, 3}, {0, 7, 3}, {7, 6, 2}, {7, 7, 1}};
+        for (int[] c : counts) {
+            Check.same("invert(3, " + c[0] + ", " + c[1] + ")", new TemporalLift().invert(3, c[0], c[1]), c[2]);
+        }
+        int[] before = State.after(USED);
+        for (int place = 0; place < 64; place++) {
+            int x0 = place % 8;
+            int y0 = place / 8;
+            int[] due = before.clone();
+            int changed = 0;
+            for (int i = 0; i < 64; i++) {
+                if (i % 8 >= x0 && i % 8 <= x0 + 2 && i / 8 >= y0 && i / 8 <= y0 + 2) {
+                    due[64 + i] = 255 - due[64 + i];
+                    changed++;
                 }
             }
-            String name = "invert(3, " + c[0] + ", " + c[1] + ")";
-            Check.same(name, new TemporalLift().invert(3, c[0], c[1]), c[2]);
-            Check.sameState(name, State.after(t -> t.invert(3, c[0], c[1])), due);
+            String name = "invert(1, " + x0 + ", " + y0 + ")";
+            Check.same(name, new TemporalLift().invert(1, x0, y0), changed);
+            Check.sameState(name, State.after(USED.andThen(t -> t.invert(1, x0, y0))), due);
         }
     }
 

@@ -13,6 +13,7 @@ public final class LinksTest {
 
     public static void main(String[] args) {
         costSumsOverTheBlock();
+        costIsOfTheBlocksOwnPixels();
         costLooksWhereTheVectorPoints();
         costTakesTheNearestPixelOutside();
         costIsOfWorkingFrames();
@@ -22,7 +23,11 @@ public final class LinksTest {
         setVectorRefuses();
         searchFindsAMovedFrame();
         searchPrefersLeastCost();
-        searchSettlesTies();
+        searchStaysWhereAllCostTheSame();
+        searchTakesTheLeastSum();
+        searchTakesTheLeastDy();
+        searchTakesTheLeastDx();
+        searchSettlesTheTieOfEveryTwo();
         searchSumsTwelveCosts();
         searchChangesOnlyWorkingVectors();
         vectorAnswers();
@@ -47,6 +52,23 @@ public final class LinksTest {
             t.ramp(SOURCE[link], 0, 0, 255);
             t.ramp(PREDICTED[link], 0, 0, 0);
             Check.same("the greatest cost", t.cost(link, 3, 0), 16 * 255);
+        }
+    }
+
+    /** One grey pixel of the predicted frame costs its value in the block that has it and in no other. */
+    private static void costIsOfTheBlocksOwnPixels() {
+        int[] blockOfRowsAbove = {0, 0, 0, 0, 1, 1, 1, 1};
+        int[] blockOfRowsBelow = {2, 2, 2, 2, 3, 3, 3, 3};
+        for (int link = 0; link < 3; link++) {
+            for (int i = 0; i < 64; i++) {
+                TemporalLift t = new TemporalLift();
+                t.put(PREDICTED[link], i % 8, i / 8, 100);
+                int has = i / 8 < 4 ? blockOfRowsAbove[i % 8] : blockOfRowsBelow[i % 8];
+                for (int block = 0; block < 4; block++) {
+                    Check.same("cost of block " + block + " of link " + link + " with pixel " + i,
+                            t.cost(link, block, 12), block == has ? 100 : 0);
+                }
+            }
         }
     }
 
@@ -210,7 +232,7 @@ public final class LinksTest {
         Check.same("cost of (0, 0)", t.cost(0, 0, step(0, 0)), 102);
     }
 
-    private static void searchSettlesTies() {
+    private static void searchStaysWhereAllCostTheSame() {
         TemporalLift flat = new TemporalLift();
         flat.ramp(1, 0, 0, 9);
         Scenes.countedVectors(flat, 0);
@@ -218,13 +240,18 @@ public final class LinksTest {
         for (int i = 0; i < 12; i++) {
             Check.same("all cost the same: vector " + i, flat.vector(i / 4, i % 4), 12);
         }
+    }
+
+    private static void searchTakesTheLeastSum() {
         tie("the least sum goes before the least dx", new int[] {3, 0},
                 new int[][] {{-1, 0}, {-2, 0}, {-2, -2}, {0, 1}}, step(-1, 0));
         tie("the least sum goes before the least dy", new int[] {0, 0},
                 new int[][] {{1, 0}, {1, -1}, {2, -2}, {0, 1}}, step(1, 0));
+    }
+
+    private static void searchTakesTheLeastDy() {
         tie("the least dy goes before the least dx", new int[] {7, 7},
                 new int[][] {{0, -1}, {-1, 0}, {-2, 0}, {-1, -1}}, step(0, -1));
-        leastDxAmongTheSameDy();
     }
 
     /** Frame 0 has one pixel at place; each vector of free costs nothing then, and (0, 0) does. */
@@ -241,7 +268,7 @@ public final class LinksTest {
     }
 
     /** Half of the block comes from the left and half from the right, in columns that alternate. */
-    private static void leastDxAmongTheSameDy() {
+    private static void searchTakesTheLeastDx() {
         TemporalLift t = new TemporalLift();
         t.ramp(0, 133, 0, 0);
         t.drift(1, 1, 0);
@@ -257,6 +284,76 @@ public final class LinksTest {
         }
         t.search();
         Check.same("the least dx among the same dy", t.vector(0, 0), step(-1, 0));
+    }
+
+    /** For every two vectors, every block and every link: a scene in which these two cost nothing. */
+    private static void searchSettlesTheTieOfEveryTwo() {
+        for (int pair = 0; pair < 25 * 25; pair++) {
+            int one = pair / 25;
+            int two = pair % 25;
+            for (int place = 0; place < 12 && one < two; place++) {
+                settles(place / 4, place % 4, one, two);
+            }
+        }
+    }
+
+    private static void settles(int link, int block, int one, int two) {
+        int[] source = sourceOfBoth(block, one, two);
+        TemporalLift t = new TemporalLift();
+        for (int i = 0; i < 64; i++) {
+            t.put(SOURCE[link], i % 8, i / 8, source[i]);
+        }
+        for (int i = 0; i < 16; i++) {
+            t.put(PREDICTED[link], 4 * (block % 2) + i % 4, 4 * (block / 2) + i / 4, source[target(block, i, one)]);
+        }
+        int due = -1;
+        for (int step = 0; step < 25; step++) {
+            if (t.cost(link, block, step) == 0) {
+                due = due < 0 || goesBefore(step, due) ? step : due;
+            }
+        }
+        String name = "steps " + one + " and " + two + " for block " + block + " of link " + link;
+        Check.same(name + ", cost of the one", t.cost(link, block, one), 0);
+        Check.same(name + ", cost of the other", t.cost(link, block, two), 0);
+        t.search();
+        Check.same(name, t.vector(link, block), due);
+    }
+
+    /** Among vectors of the same cost, as promise 10 orders them. */
+    private static boolean goesBefore(int step, int other) {
+        int dx = step / 5 - 2;
+        int dy = step % 5 - 2;
+        int otherX = other / 5 - 2;
+        int otherY = other % 5 - 2;
+        int length = Math.abs(dx) + Math.abs(dy);
+        int otherLength = Math.abs(otherX) + Math.abs(otherY);
+        if (length != otherLength) {
+            return length < otherLength;
+        }
+        return dy != otherY ? dy < otherY : dx < otherX;
+    }
+
+    /** The pixel, by number in its frame, to which the step leads from the block's i-th. */
+    private static int target(int block, int i, int step) {
+        int x = 4 * (block % 2) + i % 4 + step / 5 - 2;
+        int y = 4 * (block / 2) + i / 4 + step % 5 - 2;
+        return 8 * Math.max(0, Math.min(7, y)) + Math.max(0, Math.min(7, x));
+    }
+
+    /** Pixels that differ as far as they can where both steps are to lead to the same ones. */
+    private static int[] sourceOfBoth(int block, int one, int two) {
+        int[] pixels = new int[64];
+        for (int i = 0; i < 64; i++) {
+            pixels[i] = 4 * i;
+        }
+        for (int i = 0; i < 16; i++) {
+            int first = pixels[target(block, i, one)];
+            int second = pixels[target(block, i, two)];
+            for (int k = 0; k < 64; k++) {
+                pixels[k] = pixels[k] == second ? first : pixels[k];
+            }
+        }
+        return pixels;
     }
 
     private static void searchSumsTwelveCosts() {

@@ -19,6 +19,7 @@ public final class OutputTest {
         adoptBeforeAnyDecode();
         adoptedFramesGoTheirOwnWay();
         differenceSumsBothWays();
+        differenceGoesToItsEdges();
         differenceIsOfOneFrame();
         differenceRefuses();
         Check.end();
@@ -138,6 +139,24 @@ public final class OutputTest {
             Check.same("difference(" + f + ") up", t.difference(f), 64 * 155);
         }
         Check.changesNothing("difference", USED, t -> t.difference(2));
+    }
+
+    private static void differenceGoesToItsEdges() {
+        for (int f = 0; f < 4; f++) {
+            TemporalLift t = new TemporalLift();
+            Check.same("difference(" + f + ") of black frames", t.difference(f), 0);
+            t.ramp(f, 0, 0, 255);
+            Check.same("difference(" + f + ") of white from black", t.difference(f), 64 * 255);
+            t.encode(0);
+            t.decode(0);
+            Check.same("difference(" + f + ") of white frames", t.difference(f), 0);
+            t.ramp(f, 0, 0, 0);
+            Check.same("difference(" + f + ") of black from white", t.difference(f), 64 * 255);
+            for (int i = 0; i < 64; i++) {
+                t.put(f, i % 8, i / 8, 255);
+                Check.same("difference(" + f + ") with " + (63 - i) + " pixels left", t.difference(f), 255 * (63 - i));
+            }
+        }
     }
 
     private static void differenceIsOfOneFrame() {

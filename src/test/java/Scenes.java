@@ -1,5 +1,8 @@
 /** Runs of calls that more than one test starts from. */
 final class Scenes {
+    /** How many calls {@link #everythingInUse} makes. */
+    static final int CALLS_IN_USE = 51;
+
     private Scenes() {
     }
 
