@@ -254,13 +254,15 @@ public final class FramesTest {
             int changed = 0;
             for (int i = 0; i < 64; i++) {
                 if (i % 8 >= x0 && i % 8 <= x0 + 2 && i / 8 >= y0 && i / 8 <= y0 + 2) {
-                    due[64 + i] = 255 - due[64 + i];
+                    due[192 + i] = 255 - due[192 + i];
                     changed++;
                 }
             }
-            String name = "invert(1, " + x0 + ", " + y0 + ")";
-            Check.same(name, new TemporalLift().invert(1, x0, y0), changed);
-            Check.sameState(name, State.after(USED.andThen(t -> t.invert(1, x0, y0))), due);
+            String name = "invert(3, " + x0 + ", " + y0 + ")";
+            TemporalLift used = new TemporalLift();
+            Scenes.everythingInUse(used);
+            Check.same(name, used.invert(3, x0, y0), changed);
+            Check.sameState(name, State.after(USED.andThen(t -> t.invert(3, x0, y0))), due);
         }
     }
 

@@ -164,6 +164,7 @@ public final class LinksTest {
                 Check.same("setVector(" + i / 4 + ", " + i % 4 + ", " + step + ")", t.setVector(i / 4, i % 4, step), before);
                 before = step;
             }
+            Check.same("setVector(" + i / 4 + ", " + i % 4 + ", 12)", t.setVector(i / 4, i % 4, 12), before);
         }
     }
 

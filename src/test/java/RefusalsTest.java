@@ -10,9 +10,6 @@ import java.util.function.Consumer;
 public final class RefusalsTest {
     private static final int FREE = 0;
 
-    /** A frame, link or slot of 1 << 30 times its size is 0 in an int: it must be refused all the same. */
-    private static final int[] FAR_OUT = {Check.MIN, -(1 << 30), 1 << 30, Check.MAX};
-
     private interface Call {
         int on(TemporalLift t, int[] a);
     }
@@ -27,9 +24,8 @@ public final class RefusalsTest {
             if (refusal == FREE) {
                 return new int[] {9};
             }
-            int[] values = Arrays.copyOf(new int[] {least, most, least - 1, most + 1}, 4 + FAR_OUT.length);
-            System.arraycopy(FAR_OUT, 0, values, 4, FAR_OUT.length);
-            return values;
+            // The last two lead to a good place if they are multiplied, wrap around and are not looked at.
+            return new int[] {least, most, least - 1, most + 1, Check.MIN, Check.MAX, least + (1 << 26), most - (1 << 30)};
         }
     }
 

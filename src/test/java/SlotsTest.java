@@ -139,7 +139,7 @@ public final class SlotsTest {
             int s = slot;
             int[] got = State.after(drawn.andThen(t -> {
                 t.encode(s);
-                t.ramp(0, 3, 1, 4);
+                drawOver(t);
                 t.decode(s);
             }));
             boolean lossless = Arrays.equals(
@@ -148,14 +148,31 @@ public final class SlotsTest {
         }
     }
 
+    /** What was coded must come from the slot, not from working frames or vectors that still stand. */
+    private static void drawOver(TemporalLift t) {
+        for (int f = 0; f < 4; f++) {
+            t.ramp(f, 3, 1, 4 + f);
+        }
+        for (int i = 0; i < 12; i++) {
+            t.setVector(i / 4, i % 4, (t.vector(i / 4, i % 4) + 7) % 25);
+        }
+    }
+
+    /** In slot 0 pixel number i of the group is i and vector number i has step i, in slot 1 255 - i and i + 5. */
     private static void decodeFillsTheOutput() {
         int[] before = State.after(USED);
         for (int slot = 0; slot < 2; slot++) {
             int s = slot;
             int[] due = before.clone();
-            System.arraycopy(before, slotStart(slot) + 1, due, State.OUT, State.GROUP);
+            for (int i = 0; i < 256; i++) {
+                due[State.OUT + i] = slot == 0 ? i : 255 - i;
+            }
+            for (int i = 0; i < 12; i++) {
+                due[State.OUT + 256 + i] = slot == 0 ? i : i + 5;
+            }
+            Consumer<TemporalLift> otherOutput = USED.andThen(t -> t.decode(1 - s));
             Check.sameState("decode(" + slot + ") changes the output alone",
-                    State.after(USED.andThen(t -> t.decode(s))), due);
+                    State.after(otherOutput.andThen(t -> t.decode(s))), due);
         }
     }
 
@@ -176,6 +193,14 @@ public final class SlotsTest {
     }
 
     private static void decodeCanBeRepeated() {
+        for (int slot = 0; slot < 2; slot++) {
+            TemporalLift t = new TemporalLift();
+            Scenes.everythingInUse(t);
+            for (int time = 0; time < 3; time++) {
+                Check.same("decode(" + slot + ") for time " + time, t.decode(slot), 255 * 128);
+                Check.same("filled(" + slot + ") after decode " + time, t.filled(slot), 1);
+            }
+        }
         Check.changesNothing("decoding once more", USED.andThen(t -> t.decode(0)), t -> t.decode(0));
     }
 
